@@ -255,6 +255,11 @@ public final class PromisesTest {
     private static void faults() {
         faultAt(2, "@");
         faultAt(2, "  \n@");
+        faultAt(2, "@" + times(900, ";"));
+        faultAt(2, HEAD + "drifts:" + times(436, "1+") + "1@");
+        readable(HEAD + "drifts:" + times(435, "1+") + "1;", 2);
+        readable(HEAD + "drifts:" + times(290, "1+") + times(144, "1*") + "1;", 2);
+        readable(HEAD + "passes:" + times(96, "1=1 and ") + "1=1;", 2);
         faultAt(2, "@lane at 0;");
         faultAt(2, "@labs aspect 1 hold 1;");
         faultAt(1, "@Lab aspect 1 hold 1;");
@@ -450,6 +455,7 @@ public final class PromisesTest {
             row 0 15 => 8388608
             row 0 14 => 0
             row 1 14 => 1
+            row 1 0 => 1
             """);
         run(10, "new\ntell " + PLAIN + "drifts : time * 6 - 6; => 8\n" + """
             risen 0 => 16777200 # from delay 4 on
@@ -502,7 +508,14 @@ public final class PromisesTest {
             ticks 12 => 0
             train 0 2 => -12    # the CLOCK rises at 22: too late to hold 3
             count 7 => 9
+            """ + "tell " + HEAD + LANE + "passes : delay = 0 and level = 0; => 3\n" + """
+            place 0 9 => 0
+            train 0 0 => 0
+            place 0 9 => 0
+            train 0 1 => 0
+            lane 0 4 => 0
             """ + "tell lab aspect 3 hold 1;" + LANE + "passes : level < 4 or delay < 5; => 3\n" + """
+            place 0 383 => 0
             train 0 0 => 35     # 24 by 4: delay 11, level 1
             train 0 1 => 51     # delay 3, level 2: 16 from -1 and from delay 5, level 4
             """);
@@ -662,7 +675,7 @@ public final class PromisesTest {
             count 5 => -1
             count 7 => 0
             """);
-        for (long bad : new long[] {-1, 2, 9, 15, 99, 103, 109, 120, 199, 200, 9999, 10384, 10999, 12000, 16000, 1L << 32,
+        for (long bad : new long[] {-1, 2, 9, 15, 99, 103, 109, 120, 199, 200, 9383, 9999, 10384, 10999, 12000, 16000, 1L << 32,
             (1L << 32) + 1, (1L << 32) + 100, Long.MIN_VALUE}) {
             run(17, "new\ntell " + PLAIN + " => 7\nnumbers 3 3 2 => 0\nwrite 3 1 " + bad + " => " + bad + "\n"
                 + "judge 3 0 => 1\njudge 3 1 => 1\njudge 3 2 => 0\n");
@@ -683,17 +696,20 @@ public final class PromisesTest {
             write 0 1 11101 => 11101
             write 0 2 1 => 1
             write 0 3 14 => 14
+            place 1 44 => 0
+            pattern 1 => -1
             perform 0 => 5
             lane 0 4 => 179
             lane 1 4 => 102
             count 4 => 2
             count 5 => 3
-            count 7 => 1
-            undo 1 => 0         # as a whole
+            count 7 => 3
+            undo 1 => 2         # as a whole
             lane 0 4 => 0
-            lane 1 4 => 0
+            lane 1 4 => 44
             count 4 => 0
-            count 5 => -1
+            count 5 => 1
+            undo 2 => 0
             write 0 2 2 => 2
             perform 0 => 2      # what stood ahead of it is done
             lane 0 4 => 178
@@ -806,6 +822,15 @@ public final class PromisesTest {
             day 1 40 => 38      # two can't be
             count 7 => 7
             count 4 => 18
+            place 0 77 => 0
+            pattern 2 => 2
+            lane 3 4 => 287     # 271 levelled: the EDGE at delay 23
+            day 1 9 => 9
+            undo 1 => 9
+            count 4 => 18
+            count 5 => 2
+            lane 0 4 => 77
+            lane 3 4 => 287     # 271 levelled: the EDGE at delay 23
             """);
         run(19, "new\ntell " + HEAD + "pattern 1;" + " => 2\n" + """
             day 4 1 => 0        # there is no LANE
@@ -894,6 +919,9 @@ public final class PromisesTest {
             """ + "tell lab aspect 9 hold 1;" + LANE + "passes : delay < 5 and level < 1; => 3\n" + """
             ellipse 0 0 => 8
             ellipse 0 1 => 2
+            """ + "tell lab aspect 8 hold 1;" + LANE + "passes : delay < 5 and level = 5; => 3\n" + """
+            ellipse 0 0 => 7
+            ellipse 0 1 => 122
             """ + "tell lab aspect 1 hold 1;" + LANE + "passes : delay = 0 and level = 0 or delay = 23 and level = 15; => 3\n" + """
             ellipse 0 0 => 0
             ellipse 0 1 => 0
@@ -915,6 +943,19 @@ public final class PromisesTest {
             margin 0 1 => 18
             margin 0 2 => 1
             margin 0 3 => 14
+            place 0 24 => 1
+            margin 0 0 => 0
+            margin 0 2 => 1
+            place 0 359 => 1
+            margin 0 1 => 0
+            margin 0 3 => 1
+            margin 0 2 => 14
+            place 0 0 => 1
+            margin 0 1 => 23
+            margin 0 3 => 15
+            place 0 383 => 1
+            margin 0 0 => 23
+            margin 0 2 => 15
             """);
     }
 
@@ -948,6 +989,9 @@ public final class PromisesTest {
             pattern 3 => -1     # a STRESS of 2 leaves lanes 1 and 2 none
             lag 0 => -1
             lag 3 => -2
+            """ + "tell " + HEAD + LANE + LANE + "passes : delay = 0 or level = 1 and delay < lane; => 4\n" + """
+            lag 0 => 0
+            lag 1 => 0
             """);
         run(28, "new\nbus 0 => -1\nbus 1 => -1\nbus 2 => -1\nbus 3 => -2\nbus -1 => -2\ntell " + HEAD + LANE + LANE
             + "passes : level = 0 and [delay > 2 and delay < 6 or delay > 7 and delay < 11 or delay = 20]"
@@ -1207,6 +1251,12 @@ public final class PromisesTest {
             attempt 0 0 => 0            # a single one left: any CELL is as good
             pattern 0 => -1
             attempt 0 0 => -1
+            numbers 0 2 1 => 0          # that it didn't pass in CELL 0 tells nothing: 31 are left
+            attempt 0 0 => 120          # level 5 is the first where it passes, by 1 of 31
+            pattern -1 => 0
+            attempt 0 0 => 168          # at level 7 by 7 of 31
+            write 0 0 335 => 335        # it passed at delay 23, level 6: DRIFTS 11 to 15
+            attempt 0 0 => 141          # level 5: delay 20 by 11 alone, delay 21 by 11 and 12: 2 of 5
             """);
     }
 
@@ -1241,6 +1291,12 @@ public final class PromisesTest {
             """ + "tell " + HEAD + LANE + "drifts : time;passes : 1 = 1; => 4\n" + """
             chance 0 6 0 => 1
             chance 0 6 1 => 1
+            """ + "tell " + HEAD + LANE + "passes : delay = 9 and level = 7 or delay < 3 and level = 9; => 3\n" + """
+            place 0 177 => 1
+            chance 0 1 0 => 4
+            chance 0 1 1 => 5
+            chance 0 2 0 => 33  # 64 and twice 1 of 100
+            chance 0 2 1 => 50
             """);
         run(41, "new\nmean 3 0 => 0\nmean 3 1 => 1\ntell " + HEAD + LANE + LANE
             + "passes : lane = 0 and delay = 0 or lane = 1 and delay = 23; => 4\n" + """
