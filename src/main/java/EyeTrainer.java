@@ -106,13 +106,15 @@ public final class EyeTrainer {
     private final Maps maps;
     private final Shapes shapes;
     private final Stand now;
+    /** Where a call began that may have to go back. */
     private final Stand before;
     private final Stand[] past;
     private int undoable;
     private final Tray[] trays;
     private final Image[] images;
-    private int[] odds;
-    private int[] nextOdds;
+    /** Numbers for each DELAY, while a call counts. */
+    private int[] byDelay;
+    private int[] nextByDelay;
     private final int[] patternRows;
 
     public EyeTrainer() {
@@ -134,8 +136,8 @@ public final class EyeTrainer {
         for (int i = 0; i < IMAGES; i++) {
             images[i] = new Image();
         }
-        odds = new int[DELAYS];
-        nextOdds = new int[DELAYS];
+        byDelay = new int[DELAYS];
+        nextByDelay = new int[DELAYS];
         patternRows = new int[PATTERNS_MOST];
     }
 
@@ -615,7 +617,7 @@ public final class EyeTrainer {
         for (int level = 0; level < LEVELS && seen != 0; level++) {
             countPassing(l, level, seen);
             for (int delay = 0; delay < DELAYS; delay++) {
-                int greater = Math.max(odds[delay], Integer.bitCount(seen) - odds[delay]);
+                int greater = Math.max(byDelay[delay], Integer.bitCount(seen) - byDelay[delay]);
                 if (greater < least) {
                     least = greater;
                     found = level * DELAYS + delay;
@@ -845,7 +847,7 @@ public final class EyeTrainer {
         }
     }
 
-    /** What is so before a call that does some DEEDS; the eldest is forgotten. */
+    /** What was so ahead of a call that did some DEEDS; the eldest is forgotten. */
     private void remember(Stand stand) {
         if (undoable == UNDO_MOST) {
             Stand eldest = past[0];
@@ -982,14 +984,14 @@ public final class EyeTrainer {
         return true;
     }
 
-    /** For each DELAY at a LEVEL by how many of the DRIFTS the LANE passes. */
-    private void countPassing(int l, int level, int drifts) {
-        Arrays.fill(odds, 0);
+    /** For each DELAY at a LEVEL by how many of some DRIFTS the LANE passes. */
+    private void countPassing(int l, int level, int some) {
+        Arrays.fill(byDelay, 0);
         for (int k = 0; k < DRIFT_SORTS; k++) {
-            if ((drifts >> k & 1) != 0) {
+            if ((some >> k & 1) != 0) {
                 int bits = maps.passing(l, now.pattern, k - DRIFT_MOST, level);
                 for (int delay = 0; delay < DELAYS; delay++) {
-                    odds[delay] += bits >> delay & 1;
+                    byDelay[delay] += bits >> delay & 1;
                 }
             }
         }
@@ -997,29 +999,29 @@ public final class EyeTrainer {
 
     /** In how many of all rows of n lots a LANE passes in its POINT behind them. */
     private int passingLots(int l, int n) {
-        Arrays.fill(odds, 0);
-        odds[now.points[l] % DELAYS] = 1;
+        Arrays.fill(byDelay, 0);
+        byDelay[now.points[l] % DELAYS] = 1;
         for (int i = 0; i < n; i++) {
             drawLot();
         }
         int bits = rowNow(l, now.points[l] / DELAYS);
         int sum = 0;
         for (int delay = 0; delay < DELAYS; delay++) {
-            sum += (bits >> delay & 1) * odds[delay];
+            sum += (bits >> delay & 1) * byDelay[delay];
         }
         return sum;
     }
 
     private void drawLot() {
-        Arrays.fill(nextOdds, 0);
+        Arrays.fill(nextByDelay, 0);
         for (int delay = 0; delay < DELAYS; delay++) {
-            nextOdds[Math.max(delay - 1, 0)] += odds[delay];
-            nextOdds[Math.min(delay + 1, DELAYS - 1)] += odds[delay];
-            nextOdds[delay] += (LOTS - 2) * odds[delay];
+            nextByDelay[Math.max(delay - 1, 0)] += byDelay[delay];
+            nextByDelay[Math.min(delay + 1, DELAYS - 1)] += byDelay[delay];
+            nextByDelay[delay] += (LOTS - 2) * byDelay[delay];
         }
-        int[] spare = odds;
-        odds = nextOdds;
-        nextOdds = spare;
+        int[] spare = byDelay;
+        byDelay = nextByDelay;
+        nextByDelay = spare;
     }
 
     private static int lowestTerms(int above, int moments, int what) {
@@ -1242,34 +1244,38 @@ public final class EyeTrainer {
                 } else if (op == OP_NOT) {
                     hand = 1 - hand;
                 } else if (op == OP_JUMP || op == OP_AND && hand == 0 || op == OP_OR && hand != 0) {
-                    i = Math.max(i, operand - 1);
+                    i = operand > i ? operand - 1 : i;
                 } else if (top > 0) {
                     top--;
-                    if (op == OP_UNLESS && hand == 0) {
-                        i = Math.max(i, operand - 1);
+                    long v = stack[top];
+                    switch (op) {
+                        case OP_ADD:
+                            v += hand;
+                            break;
+                        case OP_SUBTRACT:
+                            v -= hand;
+                            break;
+                        case OP_TIMES:
+                            v *= hand;
+                            break;
+                        case OP_EQUAL:
+                            v = v == hand ? 1 : 0;
+                            break;
+                        case OP_LESS:
+                            v = v < hand ? 1 : 0;
+                            break;
+                        case OP_GREATER:
+                            v = v > hand ? 1 : 0;
+                            break;
+                        default:
+                            // OP_AND, OP_OR and OP_UNLESS drop the TRUTH in hand.
+                            i = op == OP_UNLESS && hand == 0 && operand > i ? operand - 1 : i;
+                            break;
                     }
-                    hand = op > OP_NOT ? stack[top] : together(op, stack[top], hand);
+                    hand = v > VALUE_MOST ? VALUE_MOST : v < -VALUE_MOST ? -VALUE_MOST : (int) v;
                 }
             }
             return hand;
-        }
-
-        private static int together(int op, int a, int b) {
-            switch (op) {
-                case OP_EQUAL:
-                    return a == b ? 1 : 0;
-                case OP_LESS:
-                    return a < b ? 1 : 0;
-                case OP_GREATER:
-                    return a > b ? 1 : 0;
-                default:
-                    break;
-            }
-            long v = op == OP_ADD ? (long) a + b : op == OP_SUBTRACT ? (long) a - b : (long) a * b;
-            if (v > VALUE_MOST) {
-                return VALUE_MOST;
-            }
-            return v < -VALUE_MOST ? -VALUE_MOST : (int) v;
         }
     }
 

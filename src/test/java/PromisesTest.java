@@ -861,6 +861,9 @@ public final class PromisesTest {
             eyes -1 => -2
             """ + "tell " + HEAD + LANE + "passes : delay = 0 or delay = 23; => 3\n" + """
             eyes 0 => 2         # the end of a LEVEL isn't next to the following one's begin
+            """ + "tell " + HEAD + LANE + "passes : delay * level = 0 and not delay + level = 1; => 3\n" + """
+            eyes 0 => 3         # CELL 0 by itself
+            greatest 0 => 22
             """ + "tell " + HEAD + LANE + "passes : 1 = 2; => 3\n" + """
             eyes 0 => 0
             """);
