@@ -1,9 +1,4 @@
-import java.util.Arrays;
-
-/**
- * Each promise of the document by hand. A script has one call a line, 'name numbers => answer'; 'tell text => answer'
- * puts a text on the tape and reads it, 'new' takes a new object, what follows a # is a remark.
- */
+/** Each promise of the document by hand; its answers stand in scripts, see Script. */
 public final class PromisesTest {
     /** Lane 0: rows of 3, 5, 7, 5, 3 round delay 10, level 7; lane 1: a cross of 5 round delay 5, level 4. */
     private static final String PLAIN = "lab aspect 2 hold 3;lane at 10 level 7 wide 4 high 3;"
@@ -11,9 +6,7 @@ public final class PromisesTest {
     private static final String HEAD = "lab aspect 1 hold 1;";
     private static final String LANE = "lane at 0 level 0 wide 1 high 1;";
 
-    private static int wrong;
-    private static int promise;
-    private static EyeTrainer x;
+    private static final Script S = new Script();
 
     public static void main(String[] args) {
         newObject();
@@ -36,55 +29,24 @@ public final class PromisesTest {
         chances();
         images();
         counts();
-        System.out.println(wrong == 0 ? "all promises are kept" : wrong + " answers are not as due");
-        if (wrong != 0) {
-            System.exit(1);
-        }
+        S.end("the promises");
+    }
+
+    private static void run(int promise, String script) {
+        S.says("promise " + promise);
+        S.run(script);
     }
 
     private static void due(String call, long got, long want) {
-        if (got != want) {
-            wrong++;
-            System.out.println("promise " + promise + ": " + call + " answered " + got + ", due is " + want);
-        }
+        S.due(call, got, want);
     }
 
-    private static void run(int number, String script) {
-        promise = number;
-        for (String line : script.split("\n")) {
-            String call = line.replaceAll("#.*", "").trim();
-            if (call.equals("new")) {
-                x = new EyeTrainer();
-            } else if (!call.isEmpty()) {
-                String[] sides = call.split(" => ");
-                long want = Long.parseLong(sides[1].trim());
-                if (sides[0].startsWith("tell ") && sides[0].contains(";")) {
-                    due(call, Calls.tell(x, sides[0].substring(5)), want);
-                } else {
-                    String[] words = sides[0].trim().split(" +");
-                    long[] a = Arrays.stream(words).skip(1).mapToLong(Long::parseLong).toArray();
-                    due(call, Calls.call(x, words[0], a), want);
-                }
-            }
-        }
-    }
-
-    /** A text with an @ ahead of the place of its FAULT. */
     private static void faultAt(int kind, String marked) {
-        promise = 4;
-        String text = marked.replace("@", "");
-        EyeTrainer y = new EyeTrainer();
-        due(marked, Calls.tell(y, text), -30 - kind);
-        due("fault(0) of " + marked, y.fault(0), kind);
-        due("fault(1) of " + marked, y.fault(1), marked.indexOf('@'));
+        S.faultAt(kind, marked);
     }
 
     private static void readable(String text, int lines) {
-        promise = 4;
-        EyeTrainer y = new EyeTrainer();
-        due(text, Calls.tell(y, text), lines);
-        due("fault(0) of " + text, y.fault(0), 0);
-        due("fault(1) of " + text, y.fault(1), -1);
+        S.readable(text, lines);
     }
 
     private static String times(int n, String text) {
@@ -120,14 +82,14 @@ public final class PromisesTest {
     }
 
     private static void theTape() {
-        promise = 2;
-        x = new EyeTrainer();
+        S.says("promise 2");
+        S.x = new EyeTrainer();
         for (int i = 1; i <= 44; i++) {
-            due("feed " + i, x.feed(0x20202020, 0x20202020, 0x20202020, 0x20202020, 0x20202020), 20 * i);
+            due("feed " + i, S.x.feed(0x20202020, 0x20202020, 0x20202020, 0x20202020, 0x20202020), 20 * i);
         }
         // "lab aspect 3 hold 4;" fills it to the last byte.
-        due("feed 45", x.feed(0x6c616220, 0x61737065, 0x63742033, 0x20686f6c, 0x6420343b), 900);
-        due("feed 46", x.feed(0, 0, 0, 0, 0), -5);
+        due("feed 45", S.x.feed(0x6c616220, 0x61737065, 0x63742033, 0x20686f6c, 0x6420343b), 900);
+        due("feed 46", S.x.feed(0, 0, 0, 0, 0), -5);
         run(2, """
             count 8 => 900
             lab 901 => -3
@@ -137,14 +99,14 @@ public final class PromisesTest {
             count 2 => 3
             count 3 => 4
             """);
-        due("feed of high bytes", x.feed(-1, -2, 255, 1 << 31, 128), 20);
-        due("lab", x.lab(1), -31);
-        promise = 3;
-        due("text of 900 bytes", Calls.tell(x, HEAD + times(88, "pattern 1;").substring(0, 30) + times(850, " ")), 4);
+        due("feed of high bytes", S.x.feed(-1, -2, 255, 1 << 31, 128), 20);
+        due("lab", S.x.lab(1), -31);
+        S.says("promise 3");
+        due("text of 900 bytes", Calls.tell(S.x, HEAD + times(88, "pattern 1;").substring(0, 30) + times(850, " ")), 4);
     }
 
     private static void reading() {
-        x = new EyeTrainer();
+        S.x = new EyeTrainer();
         run(3, "lab 0 => -32\nlab 1 => -3\nlab -1 => -3\ntell " + PLAIN + " => 7\n" + """
             count 0 => 2
             count 1 => 4
@@ -184,14 +146,14 @@ public final class PromisesTest {
     }
 
     private static void sumIs(String sum, int want) {
-        promise = 3;
+        S.says("promise 3");
         EyeTrainer y = new EyeTrainer();
         due(sum, Calls.tell(y, HEAD + "drifts : " + sum + ";"), 2);
         due(sum, y.drift(207), want);
     }
 
     private static void truthIs(String truth, boolean want) {
-        promise = 3;
+        S.says("promise 3");
         EyeTrainer y = new EyeTrainer();
         due(truth, Calls.tell(y, HEAD + LANE + LANE + "pattern 4;drifts:0-2;passes : " + truth + ";"), 6);
         y.pattern(0);
@@ -253,6 +215,7 @@ public final class PromisesTest {
     }
 
     private static void faults() {
+        S.says("promise 4");
         faultAt(2, "@");
         faultAt(2, "  \n@");
         faultAt(2, "@" + times(900, ";"));
