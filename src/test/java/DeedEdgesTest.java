@@ -258,7 +258,18 @@ public final class DeedEdgesTest {
             perform(101 + 10 * l);
             S.due("lane " + l + " 4", 125);
         }
+        S.fresh(HEAD + LANE + "passes:level*24+delay=0;edge:delay=1;");
+        for (long how = 0; how < 2; how++) {
+            perform(10383);
+            perform(100 + how);
+            S.run("lane 0 4 => 0\nplace 0 9 => 0\n");
+            S.due("train 0 " + how, 0);
+            S.due("lane 0 4", 0);
+        }
         S.says("0: a TICK; 1: a TICK, then all LANES are FOLLOWED");
+        S.fresh(FULL);
+        perform(15125);
+        perform(10125);
         perform(0);
         S.run("count 4 => 1\nlane 5 4 => 125\n");
         perform(1);

@@ -21,6 +21,7 @@ public final class LabEdgesTest {
         whatFaultTells();
         withoutAText();
         longestTexts();
+        longTextBehindLongText();
         numbersInTheirBounds();
         howManyLanesAndPatterns();
         laterLawsStrike();
@@ -96,6 +97,24 @@ public final class LabEdgesTest {
         S.run("count 8 => 0\nlab 1 => -3\nfeed 1818321440 1634955365 1668554801 543715180 1679831355 => 20\n");
         S.run("feed 0 0 0 0 0 => 40\nlab 21 => -31\nfault 1 => 20\n");
         S.run("feed 1818321440 1634955365 1668554801 543715180 1679831355 => 20\nlab 19 => -32\nfault 1 => 19\n");
+        S.says("The first n bytes of THE TAPE: a TOKEN ends there, whatever stands behind on THE TAPE");
+        String[] cut = {"lab aspect 1", "lab", "lab aspect 1 hold", HEAD + "drifts:time", HEAD + "drifts:99", HEAD + "pattern"};
+        for (String text : cut) {
+            for (String behind : new String[] {"x", "0", "00", ";", " ", "", "!"}) {
+                S.x = new EyeTrainer();
+                for (long[] f : Calls.feeds(text + behind)) {
+                    Calls.call(S.x, "feed", f);
+                }
+                S.due(text + " cut off", S.x.lab(text.length()), -32);
+                S.due("its place", S.x.fault(1), text.length());
+            }
+        }
+        S.says("THE TAPE (which is empty then): what stood on it has no part in a later text");
+        S.run("new\ntell " + HEAD + "drifts:timexxxxxxxxx0000000000xxxxxxxxxx0000000000; => -32\n");
+        S.due("a word at the end", Calls.tell(S.x, "lab aspect 1 hold  1;lane at 0 level 0 wide"), -32);
+        S.run("fault 1 => 43\n");
+        S.due("a number at the end", Calls.tell(S.x, "lab aspect 1 hold  1;lane at 0 level 0 wide  1 high 1;pattern 1"), -32);
+        S.run("fault 1 => 63\ncount 0 => 0\n");
         S.says("lab(0): an empty text");
         S.run("new\nlab 0 => -32\nfault 0 => 2\nfault 1 => 0\n");
     }
@@ -218,6 +237,18 @@ public final class LabEdgesTest {
         S.readable(HEAD + "drifts:1" + "-0".repeat(435) + ";", 2);
         S.due("drift 0", 1);
         S.readable(HEAD + "edge:" + "0+".repeat(216) + "0=" + "0+".repeat(217) + "0;", 2);
+    }
+
+    private static void longTextBehindLongText() {
+        S.says("THE LAB is a TEXT of at most 900 bytes: as many of these as an object can be told");
+        S.x = new EyeTrainer();
+        for (int i = 1; i <= 10; i++) {
+            String text = HEAD + "drifts:if " + "1=1and ".repeat(30) + "1=2then 1 else " + "1*".repeat(200) + i + " end;";
+            text += "drifts:" + "1-1+".repeat((900 - text.length() - 9) / 4 - 1) + i + ";";
+            S.due("text " + i, Calls.tell(S.x, text), 3);
+            S.due("drift 0", i);
+            S.due("drift 9999", i);
+        }
     }
 
     /** A text with N where an & stands; which call tells what was read. */
@@ -593,6 +624,15 @@ public final class LabEdgesTest {
         S.readable(HEAD + "edge:not[not[not[1=1]]]and[[[[[[1=1]]]]]]or((((((1))))))=((((((1))))))and not not not not not not 1=1;", 2);
         S.readable(HEAD + "drifts:((((((1))))))+((((((1))))))*((((((1))))));drifts:((((((1))))));", 3);
         S.readable(HEAD + "drifts:if(((((1)))))=1 then(((((1)))))else(((((1)))))end;", 2);
+        S.says("six within one another: what they tell");
+        S.fresh(HEAD + "drifts:" + "1+1*(".repeat(6) + "1" + ")".repeat(6) + ";");
+        S.due("drift 0", 7);
+        S.fresh(HEAD + "drifts:" + "9-2*if 8<1+1*".repeat(6) + "7" + " then 3 else 1 end".repeat(6) + ";");
+        // from within: 8 isn't less than 1 + 7, so 1; 8 isn't less than 1 + 9 - 2, so 1; and so on
+        S.due("drift 0", 7);
+        S.fresh(HEAD + LANE + "passes:" + "not[".repeat(3) + "delay<5" + "]".repeat(3) + ";edge:" + "not ".repeat(6) + "delay<5;");
+        S.run("row 0 0 => 16777184\nrisen 0 => 31\n");
+        S.says("At most six of not [ ( if within one another");
         S.faultAt(4, HEAD + "drifts:if(((((@(1)))))=1 then 1 else 1 end;");
         S.faultAt(4, HEAD + "drifts:if 1=1 then(((((@(1)))))else 1 end;");
         S.faultAt(4, HEAD + "drifts:if 1=1 then 1 else(((((@(1)))))end;");

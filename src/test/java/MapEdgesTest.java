@@ -20,6 +20,9 @@ public final class MapEdgesTest {
         ellipses();
         ellipsesOfAllCells();
         eyes();
+        beyondTheCells();
+        allApart();
+        textBehindText();
         margins();
         edges();
         lags();
@@ -359,8 +362,88 @@ public final class MapEdgesTest {
         S.run("eyes 0 => 1\ngreatest 0 => 84\n");
         passing(1, block(3, 9, 3, 9) + " and not [" + block(4, 8, 4, 8) + "]", "level*24+delay=6*24+6");
         S.run("eyes 0 => 2\ngreatest 0 => 24\n");
+        // ways that go left and down from where they are first met
+        passing(1, row(3, 9, 9), row(4, 2, 9), block(2, 2, 0, 4));
+        S.run("greatest 0 => 13\neyes 0 => 1\neyes 0 => 1\ngreatest 0 => 13\n");
+        passing(1, row(0, 9, 9), row(1, 2, 9));
+        S.run("greatest 0 => 9\neyes 0 => 1\n");
+        passing(1, row(0, 2, 2), row(1, 2, 9));
+        S.run("greatest 0 => 9\neyes 0 => 1\n");
         passing(1, "1 = 2");
-        S.run("eyes 0 => 0\ngreatest 0 => 0\n");
+        S.run("greatest 0 => 0\neyes 0 => 0\ngreatest 0 => 0\n");
+        S.says("EYES of one LANE and then another");
+        S.fresh(HEAD + LANE + LANE + "passes:lane=0 and delay*level=0 and not delay+level=1 or lane=1 and delay=3;");
+        S.run("eyes 0 => 3\neyes 1 => 1\ngreatest 0 => 22\ngreatest 1 => 16\neyes 0 => 3\n");
+    }
+
+    /** What a law would tell of a DELAY or a LEVEL that is none has no part in anything. */
+    private static void beyondTheCells() {
+        S.says("CELLS: DELAYS 0 to 23 by LEVELS 0 to 15, no others");
+        String beyond = "[delay>23 or level>15 or delay<0 or level<0]";
+        passing(1, beyond);
+        S.run("area 0 => 0\neyes 0 => 0\ngreatest 0 => 0\nrectangle 0 0 => -1\nellipse 0 0 => -1\nsteps 0 => -1\nbus 0 => 0\n");
+        S.run("train 0 0 => -12\ntrain 0 1 => -12\nlag 0 => -1\nfollow 1 => 0\nchance 0 6 0 => 0\nways 0 20 => 0\nlane 0 5 => 0\n");
+        passing(1, "not " + beyond);
+        S.run("area 0 => 384\neyes 0 => 1\nrectangle 0 0 => 384\nellipse 0 0 => 63\nmargin 0 1 => 23\nmargin 0 3 => 15\nbus 1 => 24\n");
+        S.fresh(HEAD + LANE + "pattern 1;pattern 2;passes:not " + beyond + " or stress=1;");
+        S.run("harshest 0 => 0\ntell 0 0 => 0\ntell 0 1 => 0\n");
+        S.fresh(HEAD + LANE + "edge:delay>23 or delay<0;");
+        S.run("risen 0 => 0\nedge 0 => -1\n");
+        S.fresh("lab aspect 1 hold 2;" + LANE + "edge:delay>22;");
+        S.run("risen 0 => 8388608\nedge 0 => -1\n");
+        S.fresh(HEAD + LANE + "drifts:7;passes:" + beyond + " and drift>0;");
+        tray(0, 1, 0);
+        S.run("drifts 0 0 => 2147483647\nattempt 0 0 => 0\n");
+    }
+
+    /** One object, all LANES by all PATTERNS, LEVELS and DRIFTS: none is taken for another. */
+    private static void allApart() {
+        S.says("In the laws: delay, level, lane, stress, drift as told");
+        for (int from = 0; from < 16; from += 4) {
+            S.fresh(HEAD + LANE.repeat(6) + "pattern 1;pattern 2;pattern 3;pattern 4;drifts:time;"
+                + "passes:(delay+lane*11)*(stress*7+level+3+drift*2)>200;edge:delay=lane+drift;");
+            for (int time = 0; time < 3; time++) {
+                for (int p = -1; p < 4; p++) {
+                    S.x.pattern(p);
+                    for (int l = 0; l < 6; l++) {
+                        for (int level = from; level < from + 4; level++) {
+                            int bits = 0;
+                            for (int delay = 0; delay < 24; delay++) {
+                                boolean in = (delay + l * 11) * ((p + 1) * 7 + level + 3 + time * 2) > 200;
+                                bits |= in ? 1 << delay : 0;
+                            }
+                            S.due("row " + l + " " + level, S.x.row(l, level), bits);
+                        }
+                    }
+                }
+                for (int l = 0; l < 6; l++) {
+                    S.due("risen " + l, S.x.risen(l), 1 << l + time);
+                }
+                S.x.ticks(1);
+            }
+        }
+        S.says("Its CLOCK has RISEN by the DRIFT now, whatever was looked at ahead of it");
+        S.fresh(HEAD + LANE + LANE + "drifts:time+3;edge:delay=drift+lane;passes:delay=drift;");
+        S.run("edge 1 => 4\nrisen 0 => 8\nticks 1 => 0\nedge 0 => 4\nrow 0 0 => 16\nlater 0 9 => 0\nrisen 1 => 32\nedge 0 => 4\n");
+    }
+
+    /** One object, several texts: nothing that was found in the former one is left. */
+    private static void textBehindText() {
+        S.says("the first n bytes are THE LAB: nothing of the former one is left");
+        for (int told = 1; told <= 9; told++) {
+            S.due("a text", Calls.tell(S.x, HEAD + LANE + "drifts:" + told + ";passes:delay=" + told + ";edge:delay>" + told + ";"), 5);
+            S.due("drift 0", told);
+            S.due("row 0 0", 1 << told);
+            S.due("edge 0", told + 1);
+            S.due("a text", Calls.tell(S.x, HEAD + "lane at 9 level 3 wide " + told + " high 1;drifts:0-" + told + ";"), 3);
+            S.due("drift 0", -told);
+            S.due("area 0", 9 - told + 1 >= told ? 2 * told - 1 : 9);
+            S.due("edge 0", told == 9 ? -1 : 9 - told);
+        }
+        S.run("image 0 => 0\n");
+        Calls.tell(S.x, HEAD + "lane at 9 level 3 wide 1 high 1;drifts:4;");
+        S.run("drift 0 => 4\nrow 0 3 => 8192\nimage 1 => 0\nrestore 0 => 0\ndrift 0 => -9\nrow 0 3 => 511\nrestore 1 => 0\nrow 0 3 => 8192\n");
+        S.run("drift 0 => 4\nedge 0 => 13\n");
     }
 
     private static void margins() {
@@ -434,6 +517,8 @@ public final class MapEdgesTest {
         S.run("lag 0 => 0\nlag 1 => 23\nlag 2 => -2\nlag -1 => -2\n");
         S.fresh(HEAD + LANE + "passes:1=1;");
         S.run("lag 0 => 0\nlag 1 => -2\n");
+        S.fresh(HEAD + LANE + LANE + "passes:delay=0;");
+        S.run("lag 0 => 0\nlag 1 => 0\n");
         S.says("NONE: some LANE's MAP has no CELL; -2");
         for (int none = 0; none < 3; none++) {
             S.fresh(HEAD + LANE.repeat(3) + "passes:not lane=" + none + ";");
@@ -477,6 +562,12 @@ public final class MapEdgesTest {
         S.fresh(four + "not stress=drift and not stress=drift+1;");
         S.run("harshest 0 => 0\nticks 1 => 2\nharshest 0 => 0\nticks 1 => 2\nharshest 0 => 1\nticks 2 => 2\nharshest 0 => 3\n");
         S.run("ticks 1 => 2\nharshest 0 => 0\nharshest 2 => -2\nharshest -1 => -2\n");
+        // a single CELL decides, wherever it is
+        for (int c : new int[] {0, 23, 24, 200, 359, 360, 383}) {
+            S.fresh(four + "not[stress=3 and level*24+delay=" + c + "];");
+            S.due("harshest 0", 2);
+            S.due("tell 0 1", 4);
+        }
         S.says("NONE: there are none; -2");
         S.fresh(HEAD + LANE);
         S.run("harshest 0 => -1\nharshest 1 => -2\nharshest -1 => -2\n");
@@ -593,6 +684,11 @@ public final class MapEdgesTest {
         S.run("place 0 179 => 0\nway 0 0 => 1\nway 0 1 => 2\n");
         passing(1, "level*24+delay=9*24+11");
         S.run("place 0 179 => 0\nway 0 0 => 3\nway 0 1 => 3\n");
+        S.says("the fewest STEPS: between two CELLS the nearer one");
+        passing(1, "level*24+delay=0", "level*24+delay=3");
+        S.run("place 0 2 => 0\nsteps 0 => 1\nway 0 0 => 1\nway 0 1 => -1\nplace 0 1 => 0\nway 0 0 => 0\n");
+        passing(1, "level*24+delay=24", "level*24+delay=96");
+        S.run("place 0 72 => 0\nsteps 0 => 1\nway 0 0 => 3\nplace 0 48 => 0\nway 0 0 => 2\n");
         S.says("a STEP within CELLS: no way from DELAY 0 to DELAY 23 of the LEVEL below, nor back");
         passing(1, "level*24+delay=23");
         S.run("place 0 24 => 0\nsteps 0 => 24\n");
@@ -692,6 +788,14 @@ public final class MapEdgesTest {
         S.run("drifts 0 0 => -6\nattempt 0 0 => -6\nnumbers 0 2 0 => 0\ndrifts 0 0 => -4\nattempt 0 0 => -4\n");
         S.run("numbers 0 2 9 => 0\nwrite 0 8 -1 => -1\ndrifts 0 0 => -4\nattempt 0 0 => -4\ndrifts 0 1 => -2\nattempt 4 0 => -2\n");
         S.run("drifts 3 1 => -2\nattempt 3 -1 => -2\n");
+        S.says("all these ahead of NONE: by 1 there is no DRIFT, but 768 can't be");
+        S.fresh(HEAD + LANE + "passes:1=2;");
+        tray(0, 3, 1);
+        S.run("drifts 0 0 => 0\nattempt 0 0 => -1\nattempt 0 1 => -2\nattempt 1 0 => -6\n");
+        tray(0, 3, 1, 768);
+        S.run("drifts 0 0 => -3\nattempt 0 0 => -3\n");
+        tray(0, 3, 1, 0, 0, 0, 0, 0, 0, 0, 0);
+        S.run("drifts 0 0 => -4\nattempt 0 0 => -4\n");
         S.says("2 times a CELL, and 1 if the LANE passed there, else 0: CELLS 0 and 383");
         S.fresh(HEAD + LANE + "pattern 3;passes:level*24+delay=383 and drift=15 or level*24+delay=0 and drift+15=0 and stress=0;");
         tray(0, 2, 767);
@@ -728,6 +832,11 @@ public final class MapEdgesTest {
         S.fresh(HEAD + LANE + "passes:not[level*24+delay=382 and drift>0];");
         tray(0, 0, 1);
         S.due("attempt 0 0", 382);
+        for (int c : new int[] {0, 1, 22, 23, 24, 192, 359, 360, 383}) {
+            S.fresh(HEAD + LANE + "passes:level*24+delay=" + c + " and drift>0;");
+            tray(0, 1, 2 * 100);
+            S.run("drifts 0 0 => 2147483647\nattempt 0 0 => " + c + "\n");
+        }
         // 15 against 16 by CELL 9, 16 against 15 by CELL 5: as good, the first
         S.fresh(HEAD + LANE + "passes:level*24+delay=9 and drift>0 or level*24+delay=5 and not drift<0;");
         tray(0, 0, 0);
