@@ -1,3 +1,5 @@
+import java.util.Arrays;
+
 /**
  * The boundary cases that the document names of THE LAB: the tape, the text, its TOKENS and FAULTS, the numbers of its
  * laws. Each is told with its sentence.
@@ -30,6 +32,7 @@ public final class LabEdgesTest {
         digits();
         leastKind();
         firstAlongTheText();
+        nearTexts();
         whatCannotStand();
         theEnd();
         wordsOfLaws();
@@ -456,6 +459,39 @@ public final class LabEdgesTest {
         S.faultAt(3, HEAD + "lane at 23 level @16 wide 0 high 0;");
         S.faultAt(3, HEAD + "lane at 23 level 15 wide @0 high 0;");
         S.faultAt(1, HEAD + "lane at 23 level 15 wide 1 @_high 0;");
+    }
+
+    /** Texts that differ from a right one by one TOKEN: each is held against the model's reading. */
+    private static void nearTexts() {
+        S.says("2 it can't stand there: every TOKEN in place of every other, ahead of it, and left out");
+        String right = "lab aspect 1 hold 1 ; lane at 0 level 0 wide 1 high 1 ; pattern 1 ; passes : not [ delay + level = lane ] and "
+            + "stress < drift or 1 = ( 2 ) - 1 ; edge : 1 > 2 * delay ; drifts : time + if 1 = 1 then 2 else 3 end ;";
+        String[] tokens = right.split(" ");
+        String every = "lab aspect hold lane at level wide high pattern passes edge drifts not or and if then else end delay stress drift "
+            + "time mid ; : + - * ( ) [ ] = < > 0 1 9 10 16 24 25 999 1000 ! A";
+        for (int i = 0; i <= tokens.length; i++) {
+            String ahead = String.join(" ", Arrays.copyOfRange(tokens, 0, i));
+            String from = String.join(" ", Arrays.copyOfRange(tokens, i, tokens.length));
+            String behind = String.join(" ", Arrays.copyOfRange(tokens, Math.min(i + 1, tokens.length), tokens.length));
+            asTheModelReads(ahead + " " + behind);
+            for (String other : every.split(" ")) {
+                asTheModelReads(ahead + " " + other + " " + behind);
+                asTheModelReads(ahead + " " + other + " " + from);
+            }
+        }
+    }
+
+    private static void asTheModelReads(String text) {
+        Model model = new Model();
+        for (long[] f : Calls.feeds(text)) {
+            model.call("feed", f);
+        }
+        long lines = model.call("lab", text.length());
+        if (lines < 0) {
+            S.fault((int) model.call("fault", 0), (int) model.call("fault", 1), text);
+        } else {
+            S.readable(text, (int) lines);
+        }
     }
 
     private static void whatCannotStand() {
