@@ -1286,7 +1286,7 @@ public final class EyeTrainer {
 
         Lab lab;
         private final int[] drifts;
-        /** Rows of DELAYS as bits, above them the age of THE LAB for which each was found. */
+        /** Rows of DELAYS as bits, above them the age of THE LAB and the PATTERN for which each was found. */
         private final long[] rows;
         private long age;
         private final int[] values;
@@ -1296,7 +1296,8 @@ public final class EyeTrainer {
             lab = first;
             drifts = new int[TIMES];
             Arrays.fill(drifts, UNKNOWN);
-            rows = new long[LANES_MOST * (PATTERNS_MOST + 1) * DRIFT_SORTS * LEVELS];
+            // PATTERNS share their rows, so that a new object stays small.
+            rows = new long[LANES_MOST * DRIFT_SORTS * LEVELS];
             age = 1;
             values = new int[8];
             stack = new int[64];
@@ -1327,10 +1328,10 @@ public final class EyeTrainer {
             // What the law doesn't speak of can't change the row: one row serves for all of it.
             int used = law == null ? ALL_USED : law.used;
             int k = (used >> LANE & 1) == 0 ? 0 : lane;
-            k = k * (PATTERNS_MOST + 1) + ((used >> STRESS & 1) == 0 ? 0 : pattern + 1);
             k = k * DRIFT_SORTS + ((used >> DRIFT & 1) == 0 ? 0 : drift + DRIFT_MOST);
             k = k * LEVELS + ((used >> LEVEL & 1) == 0 ? 0 : level);
-            if (rows[k] >> DELAYS == age) {
+            long mark = age * (PATTERNS_MOST + 1) + ((used >> STRESS & 1) == 0 ? 0 : pattern + 1);
+            if (rows[k] >> DELAYS == mark) {
                 return (int) rows[k] & ALL_DELAYS;
             }
             values[LEVEL] = level;
@@ -1343,7 +1344,7 @@ public final class EyeTrainer {
                 boolean in = law == null ? isInPlainEye() : law.valueBy(values, stack) != 0;
                 bits |= in ? 1 << delay : 0;
             }
-            rows[k] = age << DELAYS | bits;
+            rows[k] = mark << DELAYS | bits;
             return bits;
         }
 

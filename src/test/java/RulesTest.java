@@ -1,4 +1,5 @@
 import java.lang.management.ManagementFactory;
+import java.lang.reflect.Array;
 import java.lang.reflect.Constructor;
 import java.lang.reflect.Field;
 import java.lang.reflect.Method;
@@ -7,7 +8,9 @@ import java.nio.file.Files;
 import java.nio.file.Path;
 import java.util.ArrayList;
 import java.util.Arrays;
+import java.util.Collections;
 import java.util.HashSet;
+import java.util.IdentityHashMap;
 import java.util.List;
 import java.util.Random;
 import java.util.Set;
@@ -32,6 +35,7 @@ public final class RulesTest {
         lookAtSource();
         farArguments();
         whatRunsMake();
+        whatObjectsHold();
         System.out.println(wrong == 0 ? "the rules are kept" : wrong + " rules are broken");
         if (wrong != 0) {
             System.exit(1);
@@ -166,5 +170,29 @@ public final class RulesTest {
             long made = bean.getThreadAllocatedBytes(id) - before;
             say(made < 1000000, "rule 12: 480 calls of " + name + " made " + made + " bytes");
         }
+    }
+
+    /** Though each of 512 calls of a run made a new object, all of it would fit into the room. */
+    private static void whatObjectsHold() throws Exception {
+        Set<Object> known = Collections.newSetFromMap(new IdentityHashMap<>());
+        long held = fieldsAndElements(new EyeTrainer(), known);
+        say(512 * held < 7300000, "rule 12: a new object has " + held + " fields and elements");
+        say(512 * known.size() < 600000, "rule 12: a new object is made of " + known.size() + " objects");
+    }
+
+    private static long fieldsAndElements(Object o, Set<Object> known) throws Exception {
+        if (o == null || !known.add(o)) return 0;
+        long sum = 0;
+        if (o.getClass().isArray()) {
+            sum = Array.getLength(o);
+            if (o instanceof Object[] parts) for (Object part : parts) sum += fieldsAndElements(part, known);
+            return sum;
+        }
+        for (Field f : o.getClass().getDeclaredFields()) {
+            if (Modifier.isStatic(f.getModifiers())) continue;
+            f.setAccessible(true);
+            sum += 1 + (f.getType().isPrimitive() ? 0 : fieldsAndElements(f.get(o), known));
+        }
+        return sum;
     }
 }
